@@ -52,6 +52,9 @@ public final class Promise02WriteTest {
         x.write(5, 17, 1);
         Check.due("place(5, 17)", x.place(5, 17), 1);
         Check.due("95 and 0 do not follow one another", x.extents(5), 2);
+        x.copy(5, 15, 2, 3, 1);
+        x.write(2, 4, 1);
+        Check.due("0 for every file, not 16 f; 0 and 1 are taken", x.place(2, 4), 2);
     }
 
     private static void takenGoalGivesTheNextThenTheLeast() {
