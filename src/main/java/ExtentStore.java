@@ -231,7 +231,7 @@ public final class ExtentStore {
         }
     }
 
-    // Goes away from the target's side, so that an overlapping source is read before it is replaced.
+    // Where source and target overlap, the order sees to it that each slot is read before it is replaced.
     private void copySlots(int[] from, int source, int[] to, int target, int count) {
         if (target > source) {
             for (int i = count - 1; i >= 0; i--) {
