@@ -9,17 +9,24 @@ final class Check {
     private Check() {
     }
 
-    static void due(String call, long got, long want) {
-        if (got != want) {
+    static void due(String call, Object got, Object want) {
+        if (!got.equals(want)) {
             wrong++;
             System.out.println(call + " answered " + got + ", due is " + want);
         }
     }
 
-    static void due(String call, boolean got, boolean want) {
-        if (got != want) {
+    // A test that stands for one sentence of the document, whose words are told if it fails.
+    static void sentence(String words, Runnable test) {
+        int before = wrong;
+        try {
+            test.run();
+        } catch (RuntimeException thrown) {
             wrong++;
-            System.out.println(call + " answered " + got + ", due is " + want);
+            System.out.println("thrown: " + thrown);
+        }
+        if (wrong > before) {
+            System.out.println("  does not hold: " + words);
         }
     }
 
@@ -38,8 +45,11 @@ final class Check {
         samePart(what, "values", one, other, Check::values);
         samePart(what, "snapshots", one, other, Check::snapshots);
         samePart(what, "disk and counts", one, other, Check::diskAndCounts);
-        samePart(what, "commits", one, other, x -> "crash() " + x.crash());
+        samePart(what, "committed places", one, other, x -> x.crash() + places(x));
+        samePart(what, "committed values", one, other, x -> x.crash() + values(x));
         samePart(what, "snapshots there", one, other, x -> x.drop(0) + " " + x.drop(1) + " " + x.drop(2));
+        samePart(what, "snapshots' places", one, other,
+            x -> x.revert(0, 0) + " " + x.revert(1, 1) + " " + x.revert(2, 2) + places(x));
     }
 
     private static void samePart(String what, String part, Supplier<ExtentStore> one, Supplier<ExtentStore> other,
