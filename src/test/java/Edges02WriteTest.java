@@ -6,6 +6,8 @@ public final class Edges02WriteTest {
         Check.sentence("Logical block b of file f gets the value v", Edges02WriteTest::everyValue);
         Check.sentence("if it is mapped to a block that is OWN to it, this holds v", Edges02WriteTest::inPlace);
         Check.sentence("else a block is allocated for b, which holds v: b was a hole", Edges02WriteTest::wasAHole);
+        Check.sentence("else a block is allocated for b, which holds v: b was the only hole",
+            Edges02WriteTest::wasTheOnlyHole);
         Check.sentence("whatever b was before: shared in its own file", Edges02WriteTest::wasSharedInTheFile);
         Check.sentence("whatever b was before: shared with a file", Edges02WriteTest::wasSharedWithAFile);
         Check.sentence("whatever b was before: shared with a snapshot", Edges02WriteTest::wasInASnapshot);
@@ -61,6 +63,17 @@ public final class Edges02WriteTest {
         x.write(2, 31, 0).yes();
         x.place(2, 31).is(32);
         x.read(2, 31).is(0);
+    }
+
+    private static void wasTheOnlyHole() {
+        TestStore x = States.allOnOneBlock();
+        for (int s = 0; s < 3; s++) {
+            x.snap(s, s).yes();
+        }
+        x.punch(4, 6, 1).yes();
+        x.write(4, 6, 9).yes();
+        x.place(4, 6).is(1);
+        x.read(4, 6).is(9);
     }
 
     private static void wasSharedInTheFile() {

@@ -8,6 +8,7 @@ public final class TermsUseTest {
         Check.sentence("IN USE if a logical block of the committed maps is mapped to it",
             TermsUseTest::inUseByTheCommittedMaps);
         Check.sentence("else it is free.", TermsUseTest::elseFree);
+        Check.sentence("else it is free: every block, as often as nothing has it", TermsUseTest::freeAgain);
         Check.sentence("It is OWN to logical block b of file f if that is mapped to it", TermsUseTest::own);
         Check.sentence("and no other logical block of any file is", TermsUseTest::notOwnIfAFileHasIt);
         Check.sentence("or snapshot is", TermsUseTest::notOwnIfASnapshotHasIt);
@@ -99,6 +100,31 @@ public final class TermsUseTest {
         dropped.drop(2).yes();
         dropped.uses(0).is(0);
         zeroIsTaken(dropped, true);
+    }
+
+    // The questions stand between the changes, so that nothing of an earlier look at the disk may be left.
+    private static void freeAgain() {
+        TestStore x = States.full();
+        x.free(0).is(0);
+        for (int f = 0; f < 3; f++) {
+            x.punch(f, 0, 32).yes();
+        }
+        x.commit();
+        x.free(0).is(96);
+        x.free(1).is(96);
+        for (int p = 0; p < 96; p++) {
+            x.write(p / 32, p % 32, p).yes();
+            x.place(p / 32, p % 32).is(p);
+        }
+        x.free(0).is(0);
+        x.crash().is(16);
+        x.free(0).is(16);
+        x.uses(95).is(0);
+        x.write(5, 0, 1).yes();
+        x.place(5, 0).is(80);
+        for (int p = 0; p < 80; p++) {
+            x.uses(p).is(101);
+        }
     }
 
     private static void own() {
